@@ -56,11 +56,6 @@ public final class MutantRunner {
     private int next;
 
     public MutantRunner() {
-        instructionCount = 0;
-        trialCount = 0;
-        mutantCount = 0;
-        height = 0;
-        next = 0;
         addInstruction(OP_IN, 0);
     }
 
@@ -216,10 +211,6 @@ public final class MutantRunner {
         }
     }
 
-    private static boolean hasOperand(int op) {
-        return op == OP_NUM || op == OP_SKIP || op == OP_BACK;
-    }
-
     private boolean isMutant(int m) {
         return m >= 0 && m < mutantCount;
     }
@@ -237,7 +228,7 @@ public final class MutantRunner {
     private void addInstruction(int op, int operand) {
         int place = instructionCount;
         ops[place] = op;
-        operands[place] = hasOperand(op) ? operand : 0;
+        operands[place] = operand;
         instructionCount++;
         addMutantsAt(place);
     }

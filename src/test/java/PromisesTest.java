@@ -252,6 +252,12 @@ public final class PromisesTest {
         Checks.due("8: the most mutants", most.mutants(), 30);
         mutantIs("9 to 11", most, 29, 9, LESS, 0);
         Checks.due("9: mutantAt(30)", most.mutantAt(30), NONE);
+        Checks.addTrials(most, 1, 2, 3, 4, 5, 6);
+        Checks.due("13: killers(29)", most.killers(29), 0);
+        Checks.due("14: killed() of the most", most.killed(), 0);
+        Checks.due("15: equalOnes() of the most", most.equalOnes(), 30);
+        Checks.due("17: needed() of the most", most.needed(), 0);
+        Checks.due("18: leading() of the most", most.leading(), 0);
     }
 
     private static void promises9To16NoSuchMutant() {
@@ -389,6 +395,17 @@ public final class PromisesTest {
         Checks.due("17: two borders and one trial more", x.needed(), 4);
         Checks.write(x, IN, 0, SKIP, 3);
         Checks.due("17: nothing is killed", x.needed(), 0);
+        // Each trial kills four; to begin with the first of them would lead to three.
+        Checks.write(x, NUM, -4, IN, 0, LESS, 0);
+        x.clearTrials();
+        Checks.addTrials(x, -7, -3, -4);
+        killersAre("17: is -4 less than in", x, 2, 4, 5, 7, 3, 7);
+        Checks.due("17: is -4 less than in", x.needed(), 2);
+        Checks.write(x, NUM, 7, IN, 0, LESS, 0);
+        x.clearTrials();
+        Checks.addTrials(x, 7, 1);
+        killersAre("17: the first mutant counts", x, 1, 0, 3, 2, 3);
+        Checks.due("17: the first mutant counts", x.needed(), 2);
     }
 
     private static void promise18Leading() {
@@ -406,6 +423,15 @@ public final class PromisesTest {
         Checks.due("18: trial(1)", x.trial(1), 2);
         killersAre("18: 3 * in, 0 1", x, 2, 2, 2, 3, 3, 2);
         Checks.due("18: 3 * in, 0 1", x.leading(), 4);
+        Checks.write(x, NUM, 7, IN, 0, LESS, 0);
+        x.clearTrials();
+        Checks.addTrials(x, 7, -7, 0);
+        killersAre("18: the first mutant hinders", x, 1, 0, 5, 6, 3);
+        Checks.due("18: the first mutant hinders", x.leading(), 2);
+        x.begin();
+        Checks.due("18: sets of an earlier program don't count", x.leading(), 0);
+        Checks.due("18: append", x.append(NUM, 7), 0);
+        Checks.due("18: one mutant", x.leading(), 1);
     }
 
     private static void promise19Numbers() {

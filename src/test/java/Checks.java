@@ -1,16 +1,5 @@
 /** What the tests share: counting wrong answers and making programs. */
 final class Checks {
-    static final int NUM = 0;
-    static final int IN = 1;
-    static final int ADD = 2;
-    static final int SUB = 3;
-    static final int MUL = 4;
-    static final int LESS = 5;
-    static final int DUP = 6;
-    static final int SWAP = 7;
-    static final int SKIP = 8;
-    static final int BACK = 9;
-
     private static int wrong = 0;
 
     private Checks() {
@@ -55,6 +44,35 @@ final class Checks {
         MutantRunner x = new MutantRunner();
         write(x, instructions);
         return x;
+    }
+
+    /** The outcome of a program for an input. */
+    static void ends(String what, int want, int input, int... instructions) {
+        due(what + " for " + input, program(instructions).outcome(input), want);
+    }
+
+    static void mutantIs(String where, MutantRunner x, int m, int at, int op, int number) {
+        due(where + ": mutantAt(" + m + ")", x.mutantAt(m), at);
+        due(where + ": mutantOp(" + m + ")", x.mutantOp(m), op);
+        due(where + ": mutantNumber(" + m + ")", x.mutantNumber(m), number);
+    }
+
+    /** The mutants of the one instruction op a are the given ones, as op, number, op, number, ... */
+    static void mutantsOf(int op, int a, int... mutants) {
+        MutantRunner x = program(op, a);
+        String where = "op " + op + " with " + a;
+        due(where + ": mutants()", x.mutants(), mutants.length / 2);
+        for (int m = 0; m < mutants.length / 2; m++) {
+            mutantIs(where, x, m, 0, mutants[2 * m], mutants[2 * m + 1]);
+        }
+    }
+
+    /** The sets of killers of all mutants in turn. */
+    static void killersAre(String where, MutantRunner x, int... want) {
+        due(where + ": mutants()", x.mutants(), want.length);
+        for (int m = 0; m < want.length; m++) {
+            due(where + ": killers(" + m + ")", x.killers(m), want[m]);
+        }
     }
 
     static void addTrials(MutantRunner x, int... inputs) {
